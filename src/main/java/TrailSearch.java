@@ -1469,9 +1469,7 @@ public final class TrailSearch {
             bases[within] = inner.size;
             Way first = ways[within];
             first.become(way);
-            // Points and DEPTH of a NOT are its own, so its cuts can't reach beyond its begin.
-            first.depth = 0;
-            first.turns = 0;
+            // The points of a NOT are its own, so its cuts can't reach beyond its begin.
             first.came = 0;
             first.enter(s, program.partFirst(s, 0), program.levelOf(s) + 1);
             return GOING;

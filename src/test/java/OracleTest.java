@@ -19,7 +19,7 @@ public final class OracleTest {
 
     public static void main(String[] args) {
         int from = args.length > 0 ? Integer.parseInt(args[0]) : 0;
-        int runs = args.length > 1 ? Integer.parseInt(args[1]) : 3000;
+        int runs = args.length > 1 ? Integer.parseInt(args[1]) : 20000;
         Checks checks = new Checks("OracleTest");
         for (int run = from; run < from + runs; run++) {
             new OracleTest(checks, run).play();

@@ -13,6 +13,8 @@ public final class PromisesTest {
         programFaults();
         cost();
         begin();
+        beginAnew();
+        manyPrograms();
         go();
         goStepsOfEachKind();
         goValues();
@@ -249,6 +251,67 @@ public final class PromisesTest {
         c.due("it is as it was", x.of(3, 1), 2);
     }
 
+    private static final String[] USUAL = {"a?1,2;b?1,3;(c:1|c:2;!|c:3);!", "a?1,3;[b?1,2;(c:1|c:2)];d?{1,a,b}",
+        "(a?1,2|b?1,2;c?1,2);d?1,2;!;h:a+b", "~[3*(8*(a?0,1));a=2;b?1,1]", "2*(a?1,2;b:b*3+a);~[c?1,b;c=b-2;!]",
+        "a?1,2;~[~[b?1,3;b=a;!];c?1,2];(!|d:1)", "4*(7*(a?1,2))"};
+
+    /** What stands after other uses must be as if the object were new. */
+    private static void beginAnew() {
+        for (int i = 0; i < USUAL.length * USUAL.length * 6; i++) {
+            String before = USUAL[i % USUAL.length];
+            String text = USUAL[i / USUAL.length % USUAL.length];
+            int strategy = i / USUAL.length / USUAL.length;
+            TrailSearch used = Checks.begun(before, "a+b", i % 6);
+            used.go(0, 3 + i % 40);
+            used.all(0, 5 + i % 50);
+            Checks.program(used, 0, text);
+            used.begin(0, 0, strategy);
+            TrailSearch fresh = Checks.begun(text, strategy);
+            c.due("anew: all", used.all(0, 300), fresh.all(0, 300));
+            alike("anew, " + before + " before " + text + " by " + strategy, used, 0, fresh, 0);
+        }
+    }
+
+    /** Whether two searches tell the same of themselves. */
+    private static void alike(String what, TrailSearch x, int a, TrailSearch y, int b) {
+        for (int of = 0; of <= 9; of++) {
+            c.due(what + ": of " + of, x.of(a, of), y.of(b, of));
+        }
+        c.due(what + ": next", x.next(a), y.next(b));
+        for (int i = 0; i < 31; i++) {
+            for (int field = 0; field < 12; field++) {
+                c.due(what + ": open " + i, x.open(a, i, field), y.open(b, i, field));
+            }
+        }
+        for (int i = 0; i < 61; i++) {
+            for (int field = 0; field < 12; field++) {
+                c.due(what + ": answer " + i, x.answer(a, i, field), y.answer(b, i, field));
+            }
+        }
+    }
+
+    /** Nothing of a text may stay in the way of later ones. */
+    private static void manyPrograms() {
+        String text = "a:1+1+1+1+1+1+1+1+1+1;b:a*2-a-a+h;c?1,1;(d:3|e:4|f:5)";
+        String spoilt = "a:1+2*3;b?{1,2,3};(((!|a<b*c;[";
+        for (int texts = 0; texts <= 200; texts += 20) {
+            TrailSearch x = new TrailSearch();
+            for (int i = 0; i < texts; i++) {
+                Checks.feed(x, i % 2 == 0 ? text : spoilt);
+                x.program(0);
+                Checks.cost(x, 0, i % 2 == 0 ? "a+b+c+d*e+f-g-h" : "a-b*(c");
+            }
+            c.due("program after " + texts, Checks.program(x, 1, text), 7);
+            c.due("cost after " + texts, Checks.cost(x, 1, "a+e*2-f"), 1);
+            x.begin(0, 1, 0);
+            c.due("all after " + texts, x.all(0, 99), 3);
+            c.due("a", x.answer(0, 1, 0), 10);
+            c.due("b", x.answer(0, 1, 1), 0);
+            c.due("its cost", x.answer(0, 1, 10), 18);
+            c.due("cost of the third", x.answer(0, 2, 10), 5);
+        }
+    }
+
     private static void go() {
         TrailSearch x = Checks.begun("a?1,2;b:a", 0);
         c.due("go -1", x.go(-1, 1), BAD);
@@ -396,6 +459,9 @@ public final class PromisesTest {
         run("~[a?1,2;~[b?1,2;b>a]]", 0, 0, 16);
         run("~[(a=1|a=2)]", 0, 1, 6);
         run("~[3*(a:a+1);a=3]", 0, 0, 8);
+        x = run("a?1,2;[b:1];~[c?1,2;!;c=2]", 0, 2, 17);
+        c.due("a cut in a not behind a once", x.answer(0, 1, 0), 2);
+        run("a?1,1;2*(~[b?1,2;(!|c:1);b=2])", 0, 0, 18);
         for (int strategy = 0; strategy <= 4; strategy++) {
             run("~[a?1,3;b?1,3;a*b=2]", strategy, 0, 8);
         }
@@ -415,7 +481,7 @@ public final class PromisesTest {
             c.due("next at " + step, parts.next(0), taking ? 0 : NOT);
         }
         c.due("the last step", parts.go(0, 1), ANSWERED);
-        c.due("alike", parts.answer(0, 0, 11), whole.answer(0, 0, 11));
+        alike("in parts", parts, 0, whole, 0);
     }
 
     private static void goCrowded() {
@@ -807,6 +873,21 @@ public final class PromisesTest {
         c.due("it is done, too", x.go(2, 1), STATE);
         c.due("to itself", x.copy(1, 1), answers);
         c.due("cost and program are copied", x.answer(2, 0, 10), x.answer(0, 0, 10));
+        for (int i = 0; i < USUAL.length * 6 * 7; i++) {
+            x = Checks.begun(USUAL[i % USUAL.length], "a*b-c", i / USUAL.length % 6);
+            int steps = 1 + 7 * (i / USUAL.length / 6) + i % 5;
+            x.all(0, steps);
+            x.copy(0, 1);
+            alike("copy", x, 1, x, 0);
+            x.begin(2, 0, 0);
+            x.all(2, 30);
+            x.copy(0, 2);
+            alike("copy over another", x, 2, x, 0);
+            c.due("the copy goes on", x.all(1, 200), x.all(0, 200));
+            alike("copy gone on with", x, 1, x, 0);
+            x.all(2, 200);
+            alike("the other copy gone on with", x, 2, x, 0);
+        }
         x = Checks.begun("a?1,3;b?1,3", 1);
         x.go(0, 7);
         x.copy(0, 3);
