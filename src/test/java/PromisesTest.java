@@ -126,6 +126,7 @@ public final class PromisesTest {
         reads("[~[2*(([(!)]))]]", 7);
         reads("(!);(!);(!);(!);(!);(!);(!)", 14);
         reads("-".repeat(147) + "1=1", 1);
+        reads("[[[[[[!;a:1;b?1,2]]]]];!];!", 11);
         reads(FORTY, 40);
         reads("!;".repeat(38) + "(!)", 40);
         // the size: it ends too early
@@ -415,6 +416,17 @@ public final class PromisesTest {
         x = run("2*(!;a?1,2)", 0, 4, 15);
         c.due("a cut of a round", x.of(0, 7), 0);
         run("a?1,2;[!;b?1,2;!]", 0, 2, 13);
+        x = run("a?1,3;b?1,2;!", 1, 3, 13);
+        c.due("oldest first, a with nothing left", x.of(0, 7), 3);
+        x = run("a?1,2;b?1,2;c?1,2;!", 1, 4, 21);
+        c.due("oldest first: c four times", x.of(0, 7), 4);
+        x = run("a?1,2;b?1,2;!", 4, 1, 5);
+        c.due("least turns: both", x.of(0, 7), 2);
+        x = run("[[[[[[a?1,2;b:a;!];c?1,2;!];!;d?1,3];e?1,2];f:1];g:b]", 0, 1, 20);
+        c.due("six brackets", x.answer(0, 0, 6), 1);
+        c.due("six brackets: gone", x.of(0, 7), 4);
+        x = run("2*(2*(2*(2*(2*(2*(a:a+1))))))", 0, 1, 190);
+        c.due("rounds in six brackets", x.answer(0, 0, 0), 64);
         x = run("a?1,2;b?1,2;!", 1, 2, 9);
         c.due("oldest first: each cuts its own", x.answer(0, 1, 0), 2);
         c.due("oldest first: two went", x.of(0, 7), 2);
@@ -814,16 +826,21 @@ public final class PromisesTest {
     }
 
     private static void unlike() {
-        TrailSearch x = Checks.begun("a?{1,2,1,3,2,1}", 0);
+        TrailSearch x = Checks.begun("a?{1,2,1,3,4,1}", 0);
         c.due("unlike -1", x.unlike(-1), BAD);
         c.due("unlike 4", x.unlike(4), BAD);
         c.due("unlike none", x.unlike(1), STATE);
         c.due("none yet", x.unlike(0), 0);
         x.all(0, 99);
-        c.due("three", x.unlike(0), 3);
+        c.due("four", x.unlike(0), 4);
         x = Checks.begun("a?{1,1};h?1,2;h:h", 0);
         x.all(0, 99);
         c.due("by all values", x.unlike(0), 2);
+        x = Checks.begun("(a:1|b?1,1;b:0;a:1)", "a", 0);
+        x.all(0, 99);
+        c.due("two answers of unlike depth", x.of(0, 1), 2);
+        c.due("by values alone", x.unlike(0), 1);
+        c.due("by values alone, in common", x.common(0, 0), 2);
     }
 
     private static void turn() {
