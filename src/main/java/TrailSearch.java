@@ -1278,7 +1278,8 @@ public final class TrailSearch {
             return how;
         }
 
-        private int fail() {
+        /** The WAY fails, or it made a point: either way it goes on no more. */
+        private int endWay() {
             standing = false;
             return GOING;
         }
@@ -1429,7 +1430,7 @@ public final class TrailSearch {
         private int assign(Way way, int s) {
             int value = program.formulas.worth(program.formulaOf(s), way.values);
             if (value == NO_VALUE) {
-                return fail();
+                return endWay();
             }
             way.setValue(program.detailOf(s), value);
             way.at = program.behind(s);
@@ -1441,7 +1442,7 @@ public final class TrailSearch {
             int left = program.formulas.worth(first, way.values);
             int right = program.formulas.worth(first + 1, way.values);
             if (left == NO_VALUE || right == NO_VALUE || !isSo(left, program.detailOf(s), right)) {
-                return fail();
+                return endWay();
             }
             way.at = program.behind(s);
             return GOING;
@@ -1463,7 +1464,7 @@ public final class TrailSearch {
         private int beginNot(Way way, int s) {
             int within = nest + 1;
             if (within < 1 || within >= ways.length || within >= bases.length) {
-                return fail();
+                return endWay();
             }
             nest = within;
             bases[within] = inner.size;
@@ -1487,7 +1488,7 @@ public final class TrailSearch {
             Points to = nest > 0 ? inner : points;
             Point point = to.spare();
             if (point == null) {
-                return fail();
+                return endWay();
             }
             int kind = program.kindOf(s);
             if (kind == WAYS) {
@@ -1496,11 +1497,11 @@ public final class TrailSearch {
                 point.choices = kind == UP_TO ? prepareUpTo(point, way, s) : prepareAmong(point, way, s);
             }
             if (point.choices <= 0) {
-                return fail();
+                return endWay();
             }
             if (nest == 0 && strategy == DEEPER && way.depth >= limit) {
                 tooDeep = true;
-                return fail();
+                return endWay();
             }
             if (to.size >= POINTS_MOST) {
                 return finish(CROWDED);
@@ -1513,7 +1514,7 @@ public final class TrailSearch {
                 tally(OF_MADE, 1);
                 tally(OF_MOST, Math.max(0, points.size - tell(OF_MOST)));
             }
-            return fail();
+            return endWay();
         }
 
         /** How many values there are from the first up to the second. */
