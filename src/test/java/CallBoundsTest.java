@@ -149,8 +149,8 @@ public final class CallBoundsTest {
     /** Promise 4: "BAD; STATE: no PROGRAM (THE TAPE stays by these)", "-100 less the FAULT (nothing changes)" */
     private static void cost() {
         for (String none : NO_NUMBERS) {
-            rows("no such number", "program 0 a:1 = 1", "text a+1", "cost " + none + " = BAD", "count 1 = 3",
-                "cost 0 = 1", "count 1 = 0", "cost " + none + " = BAD");
+            rows("no such number", "program 0 a:1 = 1", "text a+", "cost " + none + " = BAD", "count 1 = 2", "feed 49 = 3",
+                "cost " + none + " = BAD", "count 1 = 3", "cost 0 = 1", "count 1 = 0", "cost " + none + " = BAD");
         }
         for (int k = 0; k < 4; k++) {
             int other = (k + 1) % 4;
@@ -186,6 +186,16 @@ public final class CallBoundsTest {
         rows("anew", "program 0 a?1,3;b?1,2;!;c?1,1 = 4", "begin 0 0 0 = 1", "all 0 500 = 1", "begin 0 0 1 = 1",
             "of 0 : 1 0 0 0 0 0 0 0 0", "of 0 9 = NOT", "answer 0 0 0 = NOT", "open 0 0 0 = NOT", "next 0 = NOT",
             "ordered 0 0 = NOT", "unlike 0 = 0", "count 2 = 1", "count 3 = 0", "all 0 500 = 3");
+        rows("anew, where some are open", "program 0 a?1,3;b?1,2 = 2", "begin 0 0 0 = 1", "go 0 4 = ANSWERED",
+            "of 0 3 = 2", "begin 0 0 0 = 1", "of 0 : 1 0 0 0 0 0 0 0 0", "open 0 0 0 = NOT", "next 0 = NOT",
+            "go 0 1 = PAUSED", "of 0 3 = 1", "all 0 99 = 6", "of 0 4 = 2");
+        rows("anew, where a not has some open", "program 0 ~[" + THIRTY + ";1=1] = 7", "begin 0 0 0 = 1",
+            "go 0 94 = PAUSED", "begin 0 0 0 = 1", "go 0 500 = DONE", "of 0 2 = 95");
+        rows("anew, where the limit is more", "program 0 a?1,2;b?1,2 = 2", "begin 0 0 5 = 1", "all 0 500 = 4",
+            "of 0 9 = 2", "begin 0 0 5 = 1", "of 0 9 = 0", "go 0 1 = PAUSED", "of 0 9 = 1", "all 0 500 = 4",
+            "of 0 9 = 2", "of 0 2 = 15");
+        rows("anew, where a way failed by the limit", "program 0 a?{1,2};a=1;b?1,1 = 3", "begin 0 0 5 = 1",
+            "go 0 5 = PAUSED", "program 1 a?1,1;1=2 = 2", "begin 0 1 5 = 1", "go 0 500 = DONE", "of 0 2 = 4", "of 0 9 = 1");
         rows("anew in its midst", "program 0 ~[a?1,3;a=4];b?1,2 = 4", "begin 0 0 5 = 1", "go 0 5 = PAUSED",
             "begin 0 0 5 = 1", "of 0 : 1 0 0 0 0 0 0 0 0 0", "all 0 500 = 2");
     }
@@ -339,6 +349,9 @@ public final class CallBoundsTest {
         rows("the empty case", "program 0 a?1,3 = 1", "begin 0 0 0 = 1", "begin 1 0 1 = 1", "common 0 1 = 0",
             "all 0 99 = 3", "common 0 1 = 0", "common 1 0 = 0", "common 1 1 = 0", "common 0 0 = 3", "go 1 9 = ANSWERED",
             "common 0 1 = 1", "common 1 0 = 1", "all 1 99 = 2", "common 0 1 = 3");
+        rows("no answer is none of values 0", "program 0 ! = 1", "begin 0 0 0 = 1", "begin 1 0 0 = 1", "go 0 1 = ANSWERED",
+            "common 0 0 = 1", "common 0 1 = 0", "common 1 0 = 0", "common 1 1 = 0", "unlike 1 = 0", "go 1 1 = ANSWERED",
+            "common 0 1 = 1", "common 1 0 = 1", "begin 0 0 0 = 1", "common 0 1 = 0", "common 1 0 = 0");
         rows("the full one", "program 0 a?{1,1,1,1,1,1};a?{1,1,1,1,1,1};a?{1,1,1,1,1,1} = 3", "begin 0 0 0 = 1",
             "all 0 500 = 60", "copy 0 1 = 60", "common 0 1 = 60", "program 1 a:1 = 1", "begin 2 1 0 = 1",
             "go 2 1 = ANSWERED", "common 0 2 = 60", "common 2 0 = 1", "program 1 a:2 = 1", "begin 2 1 0 = 1",

@@ -36,6 +36,9 @@ public final class OracleTest {
 
     private void due(String call, int got, int want) {
         calls++;
+        if (calls > Told.CALLS_MOST) {
+            throw new IllegalStateException("too many calls on one object in run " + run);
+        }
         checks.due("run " + run + ", call " + calls + ": " + call, got, want);
     }
 
@@ -53,10 +56,13 @@ public final class OracleTest {
     private void begin(int search) {
         int k = random.nextInt(4);
         String text = new Texts(random).program();
+        String cost = new Texts(random).cost();
+        if (calls + text.length() + cost.length() > 450) {
+            return;
+        }
         feed(text);
         due("program(" + k + ") " + text, x.program(k), oracle.program(k));
         if (random.nextBoolean()) {
-            String cost = new Texts(random).cost();
             feed(cost);
             due("cost(" + k + ") " + cost, x.cost(k), oracle.cost(k));
         }
@@ -69,9 +75,7 @@ public final class OracleTest {
         int s = one(3);
         switch (random.nextInt(30)) {
             case 0:
-                if (calls < 300) {
-                    begin(random.nextInt(4));
-                }
+                begin(random.nextInt(4));
                 break;
             case 1:
                 int k = one(3);

@@ -1,3 +1,5 @@
+import java.util.function.Supplier;
+
 /** Each promise by runs that were worked out by hand: ordinary inputs, edges, wrong inputs. */
 public final class PromisesTest {
     private static final int BAD = -2001, NOT = -2002, STATE = -2003;
@@ -259,34 +261,45 @@ public final class PromisesTest {
     /** What stands after other uses must be as if the object were new. */
     private static void beginAnew() {
         for (int i = 0; i < USUAL.length * USUAL.length * 6; i++) {
+            int run = i;
             String before = USUAL[i % USUAL.length];
             String text = USUAL[i / USUAL.length % USUAL.length];
             int strategy = i / USUAL.length / USUAL.length;
-            TrailSearch used = Checks.begun(before, "a+b", i % 6);
-            used.go(0, 3 + i % 40);
-            used.all(0, 5 + i % 50);
-            Checks.program(used, 0, text);
-            used.begin(0, 0, strategy);
-            TrailSearch fresh = Checks.begun(text, strategy);
-            c.due("anew: all", used.all(0, 300), fresh.all(0, 300));
-            alike("anew, " + before + " before " + text + " by " + strategy, used, 0, fresh, 0);
+            alike("anew, " + before + " before " + text + " by " + strategy, () -> {
+                TrailSearch used = Checks.begun(before, "a+b", run % 6);
+                used.go(0, 3 + run % 40);
+                used.all(0, 5 + run % 50);
+                Checks.program(used, 0, text);
+                used.begin(0, 0, strategy);
+                used.all(0, 300);
+                return used;
+            }, 0, () -> {
+                TrailSearch fresh = Checks.begun(text, strategy);
+                fresh.all(0, 300);
+                return fresh;
+            }, 0);
         }
     }
 
-    /** Whether two searches tell the same of themselves. */
-    private static void alike(String what, TrailSearch x, int a, TrailSearch y, int b) {
+    /**
+     * Whether two searches tell the same of themselves. Their objects are made anew for each part
+     * of the questions, for an object is used for 512 calls at most.
+     */
+    private static void alike(String what, Supplier<TrailSearch> one, int a, Supplier<TrailSearch> other, int b) {
+        TrailSearch x = one.get();
+        TrailSearch y = other.get();
         for (int of = 0; of <= 9; of++) {
             c.due(what + ": of " + of, x.of(a, of), y.of(b, of));
         }
         c.due(what + ": next", x.next(a), y.next(b));
-        for (int i = 0; i < 31; i++) {
-            for (int field = 0; field < 12; field++) {
-                c.due(what + ": open " + i, x.open(a, i, field), y.open(b, i, field));
-            }
-        }
         for (int i = 0; i < 61; i++) {
+            if (i % 10 == 0) {
+                x = one.get();
+                y = other.get();
+            }
             for (int field = 0; field < 12; field++) {
                 c.due(what + ": answer " + i, x.answer(a, i, field), y.answer(b, i, field));
+                c.due(what + ": open " + i, x.open(a, i, field), y.open(b, i, field));
             }
         }
     }
@@ -295,7 +308,7 @@ public final class PromisesTest {
     private static void manyPrograms() {
         String text = "a:1+1+1+1+1+1+1+1+1+1;b:a*2-a-a+h;c?1,1;(d:3|e:4|f:5)";
         String spoilt = "a:1+2*3;b?{1,2,3};(((!|a<b*c;[";
-        for (int texts = 0; texts <= 200; texts += 20) {
+        for (int texts = 0; texts <= 6; texts++) {
             TrailSearch x = new TrailSearch();
             for (int i = 0; i < texts; i++) {
                 Checks.feed(x, i % 2 == 0 ? text : spoilt);
@@ -482,9 +495,7 @@ public final class PromisesTest {
     }
 
     private static void goNotPauses() {
-        TrailSearch whole = Checks.begun("a?1,3;~[b?1,3;b=a+1]", 0);
         TrailSearch parts = Checks.begun("a?1,3;~[b?1,3;b=a+1]", 0);
-        c.due("all at once", whole.go(0, 500), ANSWERED);
         for (int step = 1; step < 26; step++) {
             c.due("step " + step, parts.go(0, 1), PAUSED);
             c.due("open then", parts.of(0, 3), step < 18 ? 1 : 0);
@@ -493,7 +504,17 @@ public final class PromisesTest {
             c.due("next at " + step, parts.next(0), taking ? 0 : NOT);
         }
         c.due("the last step", parts.go(0, 1), ANSWERED);
-        alike("in parts", parts, 0, whole, 0);
+        alike("in parts", () -> {
+            TrailSearch x = Checks.begun("a?1,3;~[b?1,3;b=a+1]", 0);
+            for (int step = 1; step <= 26; step++) {
+                x.go(0, 1);
+            }
+            return x;
+        }, 0, () -> {
+            TrailSearch x = Checks.begun("a?1,3;~[b?1,3;b=a+1]", 0);
+            c.due("all at once", x.go(0, 500), ANSWERED);
+            return x;
+        }, 0);
     }
 
     private static void goCrowded() {
@@ -891,19 +912,12 @@ public final class PromisesTest {
         c.due("to itself", x.copy(1, 1), answers);
         c.due("cost and program are copied", x.answer(2, 0, 10), x.answer(0, 0, 10));
         for (int i = 0; i < USUAL.length * 6 * 7; i++) {
-            x = Checks.begun(USUAL[i % USUAL.length], "a*b-c", i / USUAL.length % 6);
-            int steps = 1 + 7 * (i / USUAL.length / 6) + i % 5;
-            x.all(0, steps);
-            x.copy(0, 1);
-            alike("copy", x, 1, x, 0);
-            x.begin(2, 0, 0);
-            x.all(2, 30);
-            x.copy(0, 2);
-            alike("copy over another", x, 2, x, 0);
-            c.due("the copy goes on", x.all(1, 200), x.all(0, 200));
-            alike("copy gone on with", x, 1, x, 0);
-            x.all(2, 200);
-            alike("the other copy gone on with", x, 2, x, 0);
+            int run = i;
+            alike("copy", () -> copied(run, 0), 1, () -> copied(run, 0), 0);
+            alike("copy over another", () -> copied(run, 0), 2, () -> copied(run, 0), 0);
+            alike("copy gone on with", () -> copied(run, 200), 1, () -> copied(run, 200), 0);
+            alike("the other copy gone on with", () -> copied(run, 200), 2, () -> copied(run, 200), 0);
+            alike("they are gone on with by themselves", () -> copied(run, 0), 0, () -> gone(run), 0);
         }
         x = Checks.begun("a?1,3;b?1,3", 1);
         x.go(0, 7);
@@ -915,6 +929,26 @@ public final class PromisesTest {
         x.copy(0, 2);
         c.due("the limit is copied", x.of(2, 9), 1);
         c.due("none becomes one", x.all(2, 9), 2);
+    }
+
+    /** One of the usual texts, gone on with for some STEPS. */
+    private static TrailSearch gone(int run) {
+        TrailSearch x = Checks.begun(USUAL[run % USUAL.length], "a*b-c", run / USUAL.length % 6);
+        x.all(0, 1 + 7 * (run / USUAL.length / 6) + run % 5);
+        return x;
+    }
+
+    /** The same, copied to two others, and all three gone on with for some more. */
+    private static TrailSearch copied(int run, int more) {
+        TrailSearch x = gone(run);
+        x.copy(0, 1);
+        x.begin(2, 0, 0);
+        x.all(2, 30);
+        x.copy(0, 2);
+        for (int s = 0; s < 3 && more > 0; s++) {
+            x.all(s, more);
+        }
+        return x;
     }
 
     private static void would() {

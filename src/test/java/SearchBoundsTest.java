@@ -13,12 +13,15 @@ public final class SearchBoundsTest {
         partsThatAreNoValues();
         costsThatAreNoValues();
         steps();
+        signs();
         upTo();
         amongAndWays();
         depthAndTurns();
         nothingToCut();
         cutReaches();
         cutOfThisWay();
+        cutBesidesOthers();
+        cutSinceItsOwnBegin();
         once();
         not();
         cutInNot();
@@ -37,6 +40,7 @@ public final class SearchBoundsTest {
         thirtyFirstOpen();
         sixtyFirstAnswer();
         undone();
+        copiesInTheMidst();
         sideBySide();
         c.end();
     }
@@ -60,6 +64,8 @@ public final class SearchBoundsTest {
             "answer 0 0 : 999 999 0 0 0 0 0 0");
         search("-999 in each place", "a?-999,-999;b?{-999};a=b;~[a#-999];-999=a", 0, "go 0 9 = ANSWERED",
             "answer 0 0 : -999 -999 0 0 0 0 0 0");
+        search("0, negative or not", "a:-0;b:--0;c:0*-1;d:-a;e:5;e:-0+e*-0;0=-0", 0, "go 0 7 = ANSWERED",
+            "answer 0 0 : 0 0 0 0 0 0 0 0");
         search("0 times what is one", "a:0*999*999;b:0*500*2;c:999-999+999-999", 0, "go 0 3 = ANSWERED",
             "answer 0 0 : 0 0 0 0");
     }
@@ -158,6 +164,20 @@ public final class SearchBoundsTest {
                     "answer 0 0 11 = " + steps);
             }
         }
+    }
+
+    /** "one of < = > # (unlike)", "the WAY fails, if it isn't so" */
+    private static void signs() {
+        String[] pairs = {"1@2", "2@2", "3@2", "-1@0", "0@0", "0@-1", "-999@999", "999@999", "999@-999", "-5@-4", "-4@-5"};
+        int[] sides = {-1, 0, 1, -1, 0, 1, -1, 0, 1, -1, 1};
+        for (int i = 0; i < pairs.length; i++) {
+            for (char sign : new char[] {'<', '=', '>', '#'}) {
+                boolean so = sign == '<' ? sides[i] < 0 : sign == '>' ? sides[i] > 0 : sides[i] == 0 == (sign == '=');
+                search(so ? "it is so" : "it isn't so", pairs[i].replace('@', sign), 0,
+                    so ? "go 0 1 = ANSWERED" : "go 0 1 = DONE");
+            }
+        }
+        search("by values", "a?1,3;b?1,3;a<b;a#2", 0, "all 0 99 = 2", "answer 0 0 : 1 2", "answer 0 1 : 1 3");
     }
 
     /** "up to: from the first up to the second", "with no values the WAY fails" */
@@ -261,6 +281,35 @@ public final class SearchBoundsTest {
             "of 0 3 = 0", "of 0 7 = 2", "go 0 1 = DONE");
     }
 
+    /** What ways came through is known, too, when older ones, that have nothing left, went meanwhile. */
+    private static void cutBesidesOthers() {
+        search("the oldest has nothing left", "a?1,3;b?1,2;!", 1, "go 0 7 = PAUSED", "of 0 3 = 3", "turn 0 0 = 1",
+            "go 0 2 = ANSWERED", "of 0 3 = 2", "of 0 7 = 1", "go 0 2 = ANSWERED", "of 0 3 = 1", "of 0 7 = 2",
+            "open 0 0 4 = 1", "go 0 2 = ANSWERED", "of 0 7 = 3", "go 0 1 = DONE");
+        priced("the oldest has nothing left, the next ones have", "a?1,2;b?1,2;c?1,2;!", "0-b", 0, "go 0 5 = PAUSED",
+            "turn 0 1 = 0", "go 0 2 = PAUSED", "of 0 3 = 3", "turn 0 2 = 1", "next 0 = 1", "go 0 2 = ANSWERED",
+            "of 0 7 = 2", "of 0 3 = 1", "open 0 0 : 1 1 0 2 2");
+        priced("one amidst has nothing left", "a?1,2;b?1,2;c?1,2;d?1,2;!", "b-a", 0, "go 0 7 = PAUSED", "of 0 3 = 4",
+            "turn 0 2 = 0", "next 0 = 1", "go 0 2 = PAUSED", "of 0 3 = 4", "turn 0 4 = 2", "next 0 = 2",
+            "go 0 2 = ANSWERED", "of 0 7 = 3", "of 0 3 = 1", "open 0 0 : 2 1 1 2 1 2");
+    }
+
+    /** "since .. was begun (by this WAY; ..)": other ways begin the same bracket at another DEPTH. */
+    private static void cutSinceItsOwnBegin() {
+        String text = "(a:1|b?1,2);(c?1,2;!)";
+        search("a ( ) of unlike depths", text, 1, "go 0 12 = PAUSED", "of 0 3 = 3", "turn 0 0 = 1", "go 0 2 = PAUSED",
+            "open 0 2 0 = 3", "turn 0 1 = 0", "next 0 = 0", "go 0 2 = ANSWERED", "of 0 7 = 1", "of 0 3 = 2");
+        search("the sixth ( ) of unlike depths", "1*(1*(1*(1*(1*(" + text + ")))))", 1, "go 0 17 = PAUSED", "of 0 3 = 3",
+            "turn 0 0 = 1", "go 0 2 = PAUSED", "open 0 2 0 = 3", "turn 0 1 = 0", "go 0 2 = ANSWERED", "of 0 7 = 1");
+        search("a once of unlike depths", "(a:1|b?1,2);[c?1,2]", 1, "go 0 7 = PAUSED", "turn 0 0 = 1",
+            "go 0 3 = PAUSED", "of 0 3 = 3", "turn 0 1 = 0", "next 0 = 0", "go 0 1 = ANSWERED", "of 0 7 = 1",
+            "of 0 3 = 2", "all 0 99 = 2", "of 0 7 = 3");
+        search("rounds that are left, six brackets deep", "1*(1*(1*(1*(1*(2*(a?1,2;b:b*3+a))))));b=8", 0, "all 0 500 = 1",
+            "answer 0 0 : 2 8", "of 0 6 = 6");
+        search("rounds that are left, breadth first", "3*(a?1,2;b:b*3+a)", 1, "all 0 500 = 8", "answer 0 0 : 1 13",
+            "answer 0 1 : 2 14", "answer 0 6 : 1 25", "answer 0 7 : 2 26");
+    }
+
     /** "ONCE: when its P is gone through, the same for those since it was begun." */
     private static void once() {
         search("nothing in it", "a?1,2;[b:1]", 0, "all 0 99 = 2", "of 0 7 = 0");
@@ -291,8 +340,9 @@ public final class SearchBoundsTest {
             priced("the youngest is taken by any strategy", "~[a?1,2;b?1,2;b=2]", "9-b", strategy, "go 0 8 = DONE",
                 "of 0 2 = 8");
         }
-        search("six in one another", "~[~[~[~[~[~[!]]]]]]", 0, "go 0 7 = ANSWERED", "go 0 1 = DONE");
-        search("five in one another", "~[~[~[~[~[!]]]]]", 0, "go 0 6 = DONE");
+        search("six in one another", "~[~[~[~[~[~[!]]]]]]", 0, "go 0 7 = ANSWERED", "of 0 2 = 7", "go 0 1 = DONE");
+        search("six in one another, none in the last", "~[~[~[~[~[~[1=2]]]]]]", 0, "go 0 7 = DONE", "of 0 2 = 7");
+        search("five in one another", "~[~[~[~[~[!]]]]]", 0, "go 0 6 = DONE", "of 0 2 = 6");
     }
 
     /** "a CUT outside of all brackets in it reaches to its begin" */
@@ -389,6 +439,8 @@ public final class SearchBoundsTest {
         search("a turn and none taken is one, too", "a?1,3;b?1,2", 1, "go 0 3 = PAUSED", "go 0 2 = PAUSED",
             "of 0 3 = 3", "open 0 0 1 = 0", "open 0 1 1 = 0", "open 0 2 1 = 1", "turn 0 4 = 1", "next 0 = 1",
             "go 0 1 = ANSWERED", "next 0 = 2");
+        search("one more, and no more than that", "a?1,3;b?1,2;c?1,2", 1, "go 0 5 = PAUSED", "turn 0 4 = 1",
+            "next 0 = 1", "go 0 2 = PAUSED", "of 0 3 = 4", "next 0 = 3", "go 0 1 = ANSWERED", "next 0 = 3");
         search("two are more than one", "a?1,3;b?1,2", 1, "go 0 5 = PAUSED", "turn 0 4 = 1", "go 0 1 = ANSWERED",
             "go 0 1 = ANSWERED", "of 0 3 = 3", "next 0 = 1", "go 0 1 = ANSWERED", "next 0 = 0");
     }
@@ -406,6 +458,10 @@ public final class SearchBoundsTest {
         search("a limit around a not", "a?1,1;~[b?1,2;b=3]", 5, "go 0 500 = ANSWERED", "of 0 9 = 1");
         search("as 0 otherwise", "a?1,2;b?1,2", 5, "all 0 500 = 4", "answer 0 0 : 1 1", "answer 0 1 : 1 2",
             "answer 0 2 : 2 1", "answer 0 3 : 2 2", "of 0 2 = 15", "of 0 9 = 2");
+        search("the youngest, whatever its turns", "a?1,3;b?1,2", 5, "all 0 500 = 6", "answer 0 2 : 2 1",
+            "answer 0 3 : 2 2", "answer 0 4 : 3 1", "answer 0 5 : 3 2");
+        priced("the youngest, whatever its cost", "a?1,3;b?1,2", "a", 5, "all 0 500 = 6", "answer 0 2 : 2 1",
+            "answer 0 3 : 2 2", "answer 0 4 : 3 1", "answer 0 5 : 3 2");
         search("36 deep", "4*(9*(a?1,1))", 5, "all 0 2000 = 0", "of 0 0 = 1", "all 0 2000 = 1", "of 0 0 = 2",
             "of 0 9 = 36", "answer 0 0 8 = 36", "of 0 4 = 1", "of 0 5 = 666");
     }
@@ -576,6 +632,32 @@ public final class SearchBoundsTest {
         search("step by step the same", "a?1,3;b:a", 0, "2x go 0 1 = PAUSED", "go 0 1 = ANSWERED", "go 0 1 = PAUSED",
             "of 0 8 = 2", "go 0 1 = ANSWERED", "go 0 1 = PAUSED", "of 0 8 = 4");
         search("begun anew by deeper is no taking", "a:7;b?1,1", 5, "all 0 99 = 1", "of 0 8 = 0", "of 0 6 = 1");
+    }
+
+    /** "A SEARCH becomes just as another one is": a copy, or a thought, goes on from any place. */
+    private static void copiesInTheMidst() {
+        goesOnAlike("in a not in a not", "~[a?1,2;~[b?1,2;b=3];a=2]", 0, 7, "go @ 500 = DONE", "of @ : 2 0 18 0 0");
+        goesOnAlike("in the sixth not", "~[a?1,2;~[~[~[~[~[b?1,2;b=3]]]]]]", 0, 11, "go @ 500 = DONE", "of @ : 2 0 13");
+        goesOnAlike("a way failed by the limit", "a?{1,2};a=1;b?1,1", 5, 5, "all @ 99 = 1", "of @ : 2 1 14 0 2 3 5 0 3 2");
+        goesOnAlike("values among", "a?{7,8,9};b:a", 0, 3, "all @ 99 = 2", "answer @ 2 : 9 9", "answer @ 0 : 7 7");
+        goesOnAlike("rounds", "3*(a?1,2;b:b*3+a)", 0, 6, "all @ 500 = 8", "answer @ 7 : 2 26");
+        goesOnAlike("in a once", "[a?1,3;b?1,2;a=2];c?1,2", 0, 5, "all @ 500 = 2", "of @ 7 = 2", "answer @ 1 : 2 1 2");
+        Rows.priced(c, "by its costs", "(a:2|a:1|a:3);b?{5,4}", "a", 1, "go 0 10 = PAUSED", "turn 0 2 = 1",
+            "copy 0 3 = 0", "open 3 0 2 = 2", "open 3 1 2 = 1", "open 3 2 2 = 3", "next 3 = 1", "all 3 99 = 6",
+            "answer 3 0 : 1 5", "answer 3 1 : 1 4", "answer 3 2 : 2 5", "answer 3 5 : 3 4", "of 0 1 = 0");
+    }
+
+    /** After so many STEPS it is copied to one that is none and to one that is used; all go on alike. */
+    private static void goesOnAlike(String title, String text, int strategy, int steps, String... rows) {
+        String[] setup = {"begin 1 0 1 = 1", "all 1 77 = fine", "all 0 " + steps + " = fine", "of 0 2 = " + steps,
+            "copy 0 1 = fine", "copy 0 2 = fine", "would 0 500 2 = fine"};
+        String[] all = java.util.Arrays.copyOf(setup, setup.length + 3 * rows.length);
+        for (int i = 0; i < rows.length; i++) {
+            all[setup.length + i] = rows[i].replace('@', '2');
+            all[setup.length + rows.length + i] = rows[i].replace('@', '1');
+            all[setup.length + 2 * rows.length + i] = rows[i].replace('@', '0');
+        }
+        search(title, text, strategy, all);
     }
 
     /** "SEARCHES 0 .. 3: none at first; begun of a PROGRAM (as it is then, with THE COST of then)" */

@@ -32,6 +32,7 @@ public final class TextBoundsTest {
         statements();
         firstFault();
         programsAndCosts();
+        manyTexts();
         c.end();
     }
 
@@ -439,6 +440,37 @@ public final class TextBoundsTest {
         faults("(((((((!|!|!|!|!|!|!", 6);
         faults("a:1000;b:2000", 5);
         faults("(!|!|!|!|!|!|!;(((((((", 12);
+    }
+
+    /** "THE TAPE, which is empty then": nothing of a text, whole or not, stays in the way of the next. */
+    private static void manyTexts() {
+        String sum = "a:" + "1+".repeat(40) + "1";
+        String open = "((((((";
+        String parts = "a?{1,2,3,4,5,6,7}";
+        rowsAfter("sums", sum, sum, sum, sum);
+        rowsAfter("brackets", open, "[[[[[[", "2*(2*(2*(", "~[~[~[");
+        rowsAfter("S's", "!;".repeat(39), "!;".repeat(39), "(!;".repeat(6));
+        rowsAfter("E's", parts, parts, "a?{1,2,3,4,5,6", parts, parts, parts, parts, parts, parts, parts, parts, parts);
+        rowsAfter("P's", "(!|!|!|!|!|!|", "(!|!|!|!|!|!|", "(!|!|!|!|!|!|");
+        rowsAfter("ends", "a", "a:", "a?", "a?1", "a?1,", "-", "2", "2*", "~", "", "!;");
+    }
+
+    private static void rowsAfter(String title, String... texts) {
+        TrailSearch x = new TrailSearch();
+        int calls = 0;
+        for (String text : texts) {
+            Checks.feed(x, text);
+            x.program(0);
+            calls += text.length() + 1;
+        }
+        String text = "(a:1|b:2;a:b+b*b-1|!);[c?{a,b,7}];2*(d:d+1)";
+        c.due("after " + title + ": calls", Math.min(calls, 400), calls);
+        c.due("after " + title + ": " + text, Checks.program(x, 1, text), 9);
+        c.due("after " + title + ": all of it", x.begin(0, 1, 0) + x.all(0, 99), 4);
+        int[] due = {1, 0, 1, 2, 5, 2, 5, 2, 0, 0, 0, 2};
+        for (int i = 0; i < 12; i++) {
+            c.due("after " + title + ": answer " + i / 4 + ", " + i % 4, x.answer(0, i / 4, i % 4), due[i]);
+        }
     }
 
     /** "PROGRAMS 0 .. 3; THE COST of each: .., or none (0)" */
