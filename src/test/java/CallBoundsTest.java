@@ -194,6 +194,11 @@ public final class CallBoundsTest {
         rows("anew, where the limit is more", "program 0 a?1,2;b?1,2 = 2", "begin 0 0 5 = 1", "all 0 500 = 4",
             "of 0 9 = 2", "begin 0 0 5 = 1", "of 0 9 = 0", "go 0 1 = PAUSED", "of 0 9 = 1", "all 0 500 = 4",
             "of 0 9 = 2", "of 0 2 = 15");
+        rows("anew, where rounds are left", "program 0 " + LONG + " = 5", "begin 0 0 0 = 1", "go 0 4 = PAUSED",
+            "program 0 (((([a:1])));b:a);(b:b+1) = 9", "begin 0 0 0 = 1", "all 0 99 = 1", "answer 0 0 : 1 2", "of 0 2 = 14");
+        rows("anew, where a way came through some", "program 0 a?1,2;b?1,2 = 2", "program 1 a?1,3;b?1,2;! = 3",
+            "begin 0 0 0 = 1", "go 0 4 = ANSWERED", "begin 0 1 1 = 1", "go 0 7 = PAUSED", "turn 0 0 = 1",
+            "go 0 2 = ANSWERED", "of 0 7 = 1", "of 0 3 = 2", "go 0 2 = ANSWERED", "of 0 7 = 2");
         rows("anew, where a way failed by the limit", "program 0 a?{1,2};a=1;b?1,1 = 3", "begin 0 0 5 = 1",
             "go 0 5 = PAUSED", "program 1 a?1,1;1=2 = 2", "begin 0 1 5 = 1", "go 0 500 = DONE", "of 0 2 = 4", "of 0 9 = 1");
         rows("anew in its midst", "program 0 ~[a?1,3;a=4];b?1,2 = 4", "begin 0 0 5 = 1", "go 0 5 = PAUSED",
